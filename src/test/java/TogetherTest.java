@@ -1,6 +1,6 @@
 /**
  * Promise 10: together, for all a and b with the codes c at the edges, in all modes; with the
- * argument "all", for all c (some minutes).
+ * argument "all", for all c (some 15 seconds).
  */
 public final class TogetherTest {
     private static final Checks CHECKS = new Checks("TogetherTest");
