@@ -1,13 +1,25 @@
 /** Counts wrong answers, prints them, and ends the test as the shared tests do. */
 final class Checks {
-    private static final int MOST_PRINTED = 50;
+    private static final int MOST_PRINTED = 20;
 
     private final String test;
     private int wrong = 0;
+    private int printed = 0;
     private int asked = 0;
+    private String about = "";
 
     Checks(String test) {
         this.test = test;
+    }
+
+    /** What the next wrong answers are about; it is printed before each. */
+    void about(String what) {
+        about = what;
+        printed = 0;
+    }
+
+    int asked() {
+        return asked;
     }
 
     void due(String call, int got, int want) {
@@ -46,8 +58,9 @@ final class Checks {
 
     private void report(String text) {
         wrong++;
-        if (wrong <= MOST_PRINTED) {
-            System.out.println(text);
+        if (printed < MOST_PRINTED) {
+            printed++;
+            System.out.println(about + text);
         }
     }
 

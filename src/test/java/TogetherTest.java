@@ -1,6 +1,6 @@
 /**
- * Promise 10: together, for all a and b with the codes c at the edges, in all modes; with the
- * argument "all", for all c (some 15 seconds).
+ * Promise 10: together, for all a and b with the codes c at the edges, in all modes, by the oracle;
+ * with the argument "all", for all c (some 15 seconds).
  */
 public final class TogetherTest {
     private static final Checks CHECKS = new Checks("TogetherTest");
@@ -19,7 +19,6 @@ public final class TogetherTest {
                     allProducts(mode, c + 128);
                 }
             }
-            workedByHand(mode);
         }
         CHECKS.finish();
     }
@@ -32,28 +31,6 @@ public final class TogetherTest {
                 together(mode, a, b, c, due.code, due.notes);
             }
         }
-    }
-
-    private static void workedByHand(int mode) {
-        int zeroSum = mode == 3 ? 128 : 0;
-        together(mode, 0, 56, 128, zeroSum, 0);
-        together(mode, 128, 56, 0, zeroSum, 0);
-        together(mode, 128, 56, 128, 128, 0);
-        together(mode, 128, 184, 0, 0, 0);
-        together(mode, 60, 64, 196, zeroSum, 0);
-        together(mode, 0, 119, 61, 61, 0);
-        together(mode, 120, 128, 5, 124, 4);
-        together(mode, 0, 248, 120, 124, 4);
-        together(mode, 120, 0, 125, 124, 0);
-        together(mode, 120, 184, 120, 124, 4);
-        together(mode, 120, 184, 248, 248, 0);
-        together(mode, 248, 184, 119, 120, 0);
-        together(mode, 119, 119, 248, 248, 0);
-        together(mode, 255, 0, 0, 124, 0);
-        // 1.125 times 1.125 is 1.265625, which has no code; less 1.125 it is exactly 9 / 64.
-        together(mode, 57, 57, 185, 33, 0);
-        // The product alone is 256, too great; the sum 240 is not.
-        together(mode, 88, 88, 216, 119, 0);
     }
 
     private static void together(int mode, int a, int b, int c, int want, int wantNotes) {
