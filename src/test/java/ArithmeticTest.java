@@ -1,4 +1,4 @@
-/** Promises 5 to 8: add, subtract, multiply, divide, for all operands in all modes, by the oracle. */
+/** Promises 5 to 8: the four operations for all operands in all modes, by the oracle. */
 public final class ArithmeticTest {
     private static final Checks CHECKS = new Checks("ArithmeticTest");
 

@@ -81,6 +81,17 @@ public final class ProductSentencesTest {
         DOC.byMode("multiply(88, 216)", 248, 3, 247, 3, 247, 3, 248, 3);
         DOC.byMode("multiply(119, 119)", 120, 3, 119, 3, 120, 3, 119, 3);
         DOC.byMode("multiply(247, 247)", 120, 3, 119, 3, 120, 3, 119, 3);
+        // Powers of two from 1 to 16384, where a product held too small would wrap around.
+        for (int a = 56; a <= 112; a += 8) {
+            for (int b = 56; b <= 112; b += 8) {
+                String call = Calls.text("multiply", a, b);
+                if (a + b - 56 <= 112) {
+                    DOC.inAllModes(call, a + b - 56, 0);
+                } else {
+                    DOC.byMode(call, 120, 3, 119, 3, 120, 3, 119, 3);
+                }
+            }
+        }
         // Too small: u times u, and halves of u.
         DOC.byMode("multiply(1, 1)", 0, 1, 0, 1, 1, 1, 0, 1);
         DOC.byMode("multiply(1, 129)", 128, 1, 128, 1, 128, 1, 129, 1);

@@ -4,7 +4,7 @@
  * by hand, without the oracle.
  */
 final class Sentences {
-    /** Codes of which the values, up to the sign, stand at an edge: least, least of e = 1, 1, greatest. */
+    /** The least value, the last with e = 0 and the first with e = 1, then 1 and the greatest. */
     static final int[] SIZES_AT_EDGES = {1, 7, 8, 56, 119};
 
     private static final int[] NOT_CODES =
@@ -47,6 +47,16 @@ final class Sentences {
         checks.due(what, got, want);
     }
 
+    /** A call that throws is one wrong answer, so that the sentences after it are still tested. */
+    private int ask(TinyFloats x, String call) {
+        try {
+            return Calls.ask(x, call);
+        } catch (ArithmeticException | IndexOutOfBoundsException | StackOverflowError e) {
+            checks.dueTrue(call + " doesn't throw", false);
+            return Integer.MIN_VALUE;
+        }
+    }
+
     /** Calls on one new object, in rows "call = the answer that is due". */
     void run(String... rows) {
         TinyFloats x = new TinyFloats();
@@ -54,15 +64,15 @@ final class Sentences {
             int split = rows[i].indexOf(" = ");
             int want = Integer.parseInt(rows[i].substring(split + 3));
             String call = rows[i].substring(0, split);
-            checks.due("row " + (i + 1) + " of " + String.join("; ", rows) + ":", Calls.ask(x, call),
-                    want);
+            String text = "row " + (i + 1) + " of " + String.join("; ", rows) + ":";
+            checks.due(text, ask(x, call), want);
         }
     }
 
     /** The call as the first one in this mode, with the notes that it leaves. */
     void inMode(int mode, String call, int want, int wantNotes) {
         TinyFloats x = Checks.inMode(mode);
-        int got = Calls.ask(x, call);
+        int got = ask(x, call);
         checks.due(call, mode, got, x.notes(), want, wantNotes);
     }
 
@@ -96,12 +106,12 @@ final class Sentences {
         }
     }
 
-    /** Each argument in turn is at an end of the codes. None of these answers is BAD_ARG by rights. */
+    /** Each argument in turn is the first or the last code; the calls are such that -1 isn't due. */
     void takesTheOuterCodes(String name) {
         for (int place = 0; place < Calls.places(name); place++) {
             for (int code : new int[] {0, 255}) {
                 String call = callWith(name, place, code, 0);
-                int got = Calls.ask(new TinyFloats(), call);
+                int got = ask(new TinyFloats(), call);
                 checks.dueTrue(call + " isn't refused", got != TinyFloats.BAD_ARG);
             }
         }
@@ -118,18 +128,18 @@ final class Sentences {
     /** Two states that differ from a new object's and have no note in common, so a change shows. */
     void refused(String call, int answer) {
         TinyFloats x = Checks.inMode(2);
-        x.divide(1, 0);
-        x.root(184);
-        x.store(57);
+        ask(x, "divide(1, 0)");
+        ask(x, "root(184)");
+        ask(x, "store(57)");
         refusedIn(x, call, answer, 2, 12, 57);
         TinyFloats y = Checks.inMode(1);
-        y.from(256);
-        y.store(255);
+        ask(y, "from(256)");
+        ask(y, "store(255)");
         refusedIn(y, call, answer, 1, 3, 255);
     }
 
     private void refusedIn(TinyFloats x, String call, int answer, int mode, int notes, int store) {
-        checks.due(call, Calls.ask(x, call), answer);
+        checks.due(call, ask(x, call), answer);
         checks.due("notes() after " + call, x.notes(), notes);
         checks.due("mode(0) after " + call, x.mode(0), mode);
         checks.due("store(0) after " + call, x.store(0), store);

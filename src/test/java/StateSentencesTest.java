@@ -31,7 +31,7 @@ public final class StateSentencesTest {
         // What one object holds isn't another's.
         TinyFloats changed = Checks.inMode(3);
         changed.store(99);
-        changed.divide(0, 0);
+        changed.multiply(0, 120);
         DOC.run("mode(0) = 0", "notes() = 0", "store(0) = 0");
     }
 

@@ -60,7 +60,9 @@ public final class SumSentencesTest {
         // u away from 240 and from 16 u, where the distance of values doubles.
         DOC.byMode("add(119, 1)", 119, 1, 119, 1, 120, 3, 119, 1);
         DOC.byMode("add(119, 129)", 119, 1, 118, 1, 119, 1, 118, 1);
+        DOC.byMode("add(129, 119)", 119, 1, 118, 1, 119, 1, 118, 1);
         DOC.byMode("add(247, 129)", 247, 1, 247, 1, 247, 1, 248, 3);
+        DOC.byMode("add(1, 247)", 247, 1, 246, 1, 246, 1, 247, 1);
         DOC.inAllModes("add(15, 1)", 16, 0);
         DOC.byMode("add(16, 1)", 16, 1, 16, 1, 17, 1, 16, 1);
         // 248 is midway between 240 and 256; 256 is too great in every mode.

@@ -51,7 +51,8 @@ public final class TermsSentencesTest {
     private static void codes() {
         DOC.sentence("A CODE is a number 0 to 255: its sign s is the digit 128, its exponent e the"
                 + " digits 8 to 64 (code / 8 % 16), its fraction m the digits 1 to 4 (code % 8).");
-        DOC.run("add(-1, 0) = -1", "add(0, 0) = 0", "add(255, 0) = 124", "add(256, 0) = -1");
+        DOC.run("store(-1) = -1", "store(0) = 0", "store(255) = 0", "store(256) = -1",
+                "store(0) = 255");
         for (int size = 1; size <= 120; size++) {
             DOC.inAllModes(Calls.text("compare", size, size + 128), 1, 0);
             DOC.inAllModes(Calls.text("compare", size + 128, size), -1, 0);
