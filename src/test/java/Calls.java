@@ -1,10 +1,14 @@
 import java.util.List;
+import java.util.stream.Stream;
 
 /** Calls told as text, such as "add(56, 57)", so that a row of a test is one line. */
 final class Calls {
     /** Every method of the document's face that takes arguments. */
     static final List<String> WITH_ARGUMENTS = List.of("mode", "add", "subtract", "multiply",
             "divide", "root", "together", "compare", "from", "whole", "pile", "pileProduct", "store");
+
+    static final List<String> ALL =
+            Stream.concat(Stream.of("notes", "clear"), WITH_ARGUMENTS.stream()).toList();
 
     static String text(String name, int... args) {
         StringBuilder text = new StringBuilder(name).append('(');
